@@ -70,8 +70,10 @@ final class Check {
     /** What was WRITTEN latest. */
     static String written(PlanFractions x) {
         StringBuilder text = new StringBuilder();
-        for (int i = 0; x.letter(i) != PlanFractions.NONE; i++) {
-            text.append((char) x.letter(i));
+        int letter = x.letter(0);
+        for (int i = 1; letter != PlanFractions.NONE; i++) {
+            text.append((char) letter);
+            letter = x.letter(i);
         }
         return text.toString();
     }
