@@ -14,11 +14,12 @@ public final class PlanFractions {
     // Limbs of 31 bits, not 32: then no product, sum or quotient of them needs an unsigned long.
     private static final int LIMB_BITS = 31;
     private static final int LIMB_MASK = 0x7FFFFFFF;
+    private static final long TWO_LIMB_MASK = 0x3FFFFFFFFFFFFFFFL;
 
     // The longest whole number on the way is a product of four of the greatest LENGTH: 4 times 17 limbs.
     private static final int WORK_LIMBS = 72;
 
-    // Far above the 740 or so steps that two numbers of 512 bits can need.
+    // Far above the 740 or so turns that two numbers of 512 bits can need.
     private static final int MOST_STEPS = 10000;
 
     private static final int CHUNK = 1000000000;
@@ -570,13 +571,13 @@ public final class PlanFractions {
             return copy;
         }
 
-        private void trim() {
+        void trim() {
             while (size > 0 && limbs[size - 1] == 0) {
                 size--;
             }
         }
 
-        private long limbOrZero(int i) {
+        long limbOrZero(int i) {
             return i >= 0 && i < size ? limbs[i] : 0;
         }
 
@@ -721,9 +722,14 @@ public final class PlanFractions {
                 return;
             }
             int top = size - by.size;
+            int shift = by.freeBits();
+            long head = by.twoLimbs(by.size - 1, shift);
             limbs[size] = 0;
+            size++;
             for (int at = top; at >= 0; at--) {
-                quotient.limbs[at] = takeAway(by, guess(by, at), at);
+                long high = twoLimbs(at + by.size, shift);
+                long low = twoLimbs(at + by.size - 2, shift) >>> LIMB_BITS & LIMB_MASK;
+                quotient.limbs[at] = takeAway(by, guess(high, low, head), at);
             }
             quotient.size = top + 1;
             quotient.trim();
@@ -731,34 +737,38 @@ public final class PlanFractions {
             trim();
         }
 
-        /** The next limb of a quotient, or one more, from the highest bits alone (Knuth's algorithm D). */
-        private long guess(Whole by, int at) {
-            int n = by.size;
-            int shift = Integer.numberOfLeadingZeros(by.limbs[n - 1]) - 1;
-            long head = by.shifted(n - 1, shift);
-            if (head <= 0) {
+        /** How far the number can be shifted up within its highest limb; 0 of 0. */
+        int freeBits() {
+            return size == 0 ? 0 : Integer.numberOfLeadingZeros(limbs[size - 1]) - 1;
+        }
+
+        /** Limbs i and i - 1 of this number shifted up; what comes above limb i is left out. */
+        long twoLimbs(int i, int shift) {
+            return (limbOrZero(i) << LIMB_BITS + shift | limbOrZero(i - 1) << shift
+                | limbOrZero(i - 2) >>> (LIMB_BITS - shift)) & TWO_LIMB_MASK;
+        }
+
+        /** The next limb of a quotient, or one more, from the highest three limbs over two (Knuth's algorithm D). */
+        private static long guess(long high, long low, long head) {
+            long first = head >>> LIMB_BITS;
+            long second = head & LIMB_MASK;
+            if (first == 0) {
                 return 0;
             }
-            long second = by.shifted(n - 2, shift);
-            long high = shifted(at + n, shift) << LIMB_BITS | shifted(at + n - 1, shift);
-            long low = shifted(at + n - 2, shift);
-            long digit = Math.min(high / head, LIMB_MASK);
-            long left = high - digit * head;
+            long digit = Math.min(high / first, LIMB_MASK);
+            long left = high - digit * first;
             for (int i = 0; i < 2 && left <= LIMB_MASK && digit * second > (left << LIMB_BITS | low); i++) {
                 digit--;
-                left += head;
+                left += first;
             }
             return digit;
         }
 
-        /** Limb i of this number shifted up; i may be the free limb above. */
-        private long shifted(int i, int shift) {
-            long below = i > 0 ? limbs[i - 1] >>> (LIMB_BITS - shift) : 0;
-            return (long) limbs[i] << shift & LIMB_MASK | below;
-        }
-
         /** Takes digit times another one away from limb at on; answers the digit, mended if it was one too many. */
         private int takeAway(Whole by, long digit, int at) {
+            if (digit == 0) {
+                return 0;
+            }
             long carry = 0;
             for (int i = 0; i < by.size; i++) {
                 carry += digit * by.limbs[i];
@@ -788,11 +798,112 @@ public final class PlanFractions {
         }
     }
 
+    /**
+     * Finds greatest common divisors by turns: x becomes y, and y what is left of x by y. Where the highest bits of
+     * both tell the quotients of many turns, it takes those turns at once (Lehmer's way, stopped as Collins does).
+     */
+    private static final class Euclid {
+        private final Whole unused = new Whole(WORK_LIMBS);
+        private Whole x = new Whole(WORK_LIMBS);
+        private Whole y = new Whole(WORK_LIMBS);
+        // After the turns foreseen x is xByX times x plus xByY times y, and y likewise.
+        private long xByX;
+        private long xByY;
+        private long yByX;
+        private long yByY;
+
+        /** Into becomes the greatest common divisor of two; if one is 0, the other one. */
+        void find(Whole a, Whole b, Whole into) {
+            if (a.isOne() || b.isOne()) {
+                into.setLong(1);
+                return;
+            }
+            boolean inOrder = a.compareWith(b) >= 0;
+            x.copy(inOrder ? a : b);
+            y.copy(inOrder ? b : a);
+            for (int i = 0; i < MOST_STEPS && x.size > 2 && y.size > 0; i++) {
+                if (foresee()) {
+                    leap();
+                } else {
+                    x.divide(y, unused);
+                    Whole next = x;
+                    x = y;
+                    y = next;
+                }
+            }
+            if (x.size > 2) {
+                into.copy(x);
+            } else {
+                into.setLong(commonOfLongs(x.lowLong(), y.lowLong()));
+            }
+        }
+
+        /** Of x and a y not above it: whether their highest two limbs tell a quotient; all that they tell are noted. */
+        private boolean foresee() {
+            int shift = x.freeBits();
+            long p = x.twoLimbs(x.size - 1, shift);
+            long q = y.twoLimbs(x.size - 1, shift);
+            long byX = 0, byY = 0, nextByX = 1, nextByY = 0, lastByX = 0, lastByY = 1;
+            long sign = -1;
+            for (int i = 0; i < MOST_STEPS && q > 0 && q >= lastByY && p - q >= nextByY + lastByY; i++) {
+                long quotient = p / q;
+                long left = p % q;
+                p = q;
+                q = left;
+                long newByX = nextByX + quotient * lastByX;
+                long newByY = nextByY + quotient * lastByY;
+                byX = nextByX;
+                byY = nextByY;
+                nextByX = lastByX;
+                nextByY = lastByY;
+                lastByX = newByX;
+                lastByY = newByY;
+                sign = -sign;
+            }
+            xByX = sign * byX;
+            xByY = -sign * byY;
+            yByX = -sign * nextByX;
+            yByY = sign * nextByY;
+            return byY != 0;
+        }
+
+        /** Takes the turns foreseen. */
+        private void leap() {
+            int size = x.size;
+            long xCarry = 0;
+            long yCarry = 0;
+            for (int i = 0; i < size; i++) {
+                long ofX = x.limbOrZero(i);
+                long ofY = y.limbOrZero(i);
+                xCarry += xByX * ofX + xByY * ofY;
+                yCarry += yByX * ofX + yByY * ofY;
+                x.limbs[i] = (int) xCarry & LIMB_MASK;
+                y.limbs[i] = (int) yCarry & LIMB_MASK;
+                xCarry >>= LIMB_BITS;
+                yCarry >>= LIMB_BITS;
+            }
+            x.size = size;
+            y.size = size;
+            x.trim();
+            y.trim();
+        }
+
+        private static long commonOfLongs(long a, long b) {
+            long p = a;
+            long q = b;
+            for (int i = 0; i < MOST_STEPS && q != 0; i++) {
+                long left = p % q;
+                p = q;
+                q = left;
+            }
+            return p;
+        }
+    }
+
     /** The arithmetic of NUMBERS, with the room that it works in; it answers null for what is WIDE. */
     private static final class Reckoner {
         final Fraction zero;
-        private final Whole euclidA = new Whole(WORK_LIMBS);
-        private final Whole euclidB = new Whole(WORK_LIMBS);
+        private final Euclid euclid = new Euclid();
         private final Whole dividend = new Whole(WORK_LIMBS);
         private final Whole unused = new Whole(WORK_LIMBS);
         private final Whole common = new Whole(WORK_LIMBS);
@@ -815,7 +926,7 @@ public final class PlanFractions {
             }
             left.setLong(top < 0 ? -top : top);
             right.setLong(bottom < 0 ? -bottom : bottom);
-            findCommon(left, right, common);
+            euclid.find(left, right, common);
             divideOut(left, common, above);
             divideOut(right, common, below);
             return made((top < 0) == (bottom < 0) ? 1 : -1);
@@ -867,10 +978,10 @@ public final class PlanFractions {
 
         /** Of two in least terms it is in least terms as it comes. */
         Fraction commonMeasure(Fraction a, Fraction b) {
-            findCommon(a.below, b.below, common);
+            euclid.find(a.below, b.below, common);
             divideOut(a.below, common, cutA);
             below.setProduct(cutA, b.below);
-            findCommon(a.above, b.above, above);
+            euclid.find(a.above, b.above, above);
             return above.size == 0 ? zero : made(1);
         }
 
@@ -935,7 +1046,7 @@ public final class PlanFractions {
 
         /** Sets left and right to the sizes of ABOVE over the least BELOW of both, which is cutA times that of b. */
         private void bringTogether(Fraction a, Fraction b) {
-            findCommon(a.below, b.below, common);
+            euclid.find(a.below, b.below, common);
             divideOut(a.below, common, cutA);
             divideOut(b.below, common, cutB);
             left.setProduct(a.above, cutB);
@@ -944,7 +1055,7 @@ public final class PlanFractions {
 
         /** A number over cutA times a bottom; whatever it shares with that, it shares with the one told. */
         private Fraction overBoth(int sign, Whole number, Whole sharing, Whole bottom) {
-            findCommon(number, sharing, cutB);
+            euclid.find(number, sharing, cutB);
             divideOut(number, cutB, above);
             divideOut(bottom, cutB, right);
             below.setProduct(cutA, right);
@@ -956,10 +1067,10 @@ public final class PlanFractions {
             if (a.sign == 0 || sign == 0) {
                 return zero;
             }
-            findCommon(a.above, bottom, common);
+            euclid.find(a.above, bottom, common);
             divideOut(a.above, common, cutA);
             divideOut(bottom, common, left);
-            findCommon(top, a.below, common);
+            euclid.find(top, a.below, common);
             divideOut(top, common, cutB);
             divideOut(a.below, common, right);
             above.setProduct(cutA, cutB);
@@ -983,41 +1094,6 @@ public final class PlanFractions {
             }
             dividend.copy(number);
             dividend.divide(divisor, into);
-        }
-
-        /** Into becomes the greatest common divisor of two; if one is 0, the other one. */
-        private void findCommon(Whole a, Whole b, Whole into) {
-            if (a.isOne() || b.isOne()) {
-                into.copy(one);
-                return;
-            }
-            Whole x = euclidA;
-            Whole y = euclidB;
-            x.copy(a);
-            y.copy(b);
-            for (int i = 0; i < MOST_STEPS && y.size > 2; i++) {
-                x.divide(y, unused);
-                Whole swap = x;
-                x = y;
-                y = swap;
-            }
-            if (y.size == 0) {
-                into.copy(x);
-                return;
-            }
-            x.divide(y, unused);
-            into.setLong(commonOfLongs(y.lowLong(), x.lowLong()));
-        }
-
-        private static long commonOfLongs(long a, long b) {
-            long x = a;
-            long y = b;
-            for (int i = 0; i < MOST_STEPS && y != 0; i++) {
-                long left = x % y;
-                x = y;
-                y = left;
-            }
-            return x;
         }
     }
 
