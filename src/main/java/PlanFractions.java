@@ -757,11 +757,7 @@ public final class PlanFractions {
             }
             long digit = Math.min(high / first, LIMB_MASK);
             long left = high - digit * first;
-            for (int i = 0; i < 2 && left <= LIMB_MASK && digit * second > (left << LIMB_BITS | low); i++) {
-                digit--;
-                left += first;
-            }
-            return digit;
+            return left <= LIMB_MASK && digit * second > (left << LIMB_BITS | low) ? digit - 1 : digit;
         }
 
         /** Takes digit times another one away from limb at on; answers the digit, mended if it was one too many. */
@@ -779,9 +775,7 @@ public final class PlanFractions {
                 }
                 limbs[at + i] = next & LIMB_MASK;
             }
-            boolean tooMuch = limbs[at + by.size] < carry;
-            limbs[at + by.size] = 0;
-            if (tooMuch) {
+            if (limbs[at + by.size] < carry) {
                 giveBack(by, at);
                 return (int) digit - 1;
             }
