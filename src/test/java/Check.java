@@ -27,22 +27,23 @@ final class Check {
 
     /** Just this class is due, not one below it. */
     void throwsJust(String call, Class<? extends RuntimeException> want, Call made) {
-        asked++;
-        String got;
-        try {
-            got = "answered " + made.answer();
-        } catch (RuntimeException thrown) {
-            if (thrown.getClass() == want) {
-                return;
-            }
-            got = "threw " + thrown.getClass().getName();
-        }
-        wrong++;
-        System.out.println(call + " " + got + ", due is throws " + want.getName());
+        due(call, answer(made), "throws." + want.getSimpleName());
     }
 
-    int wrong() {
-        return wrong;
+    /** What a call answers, or throws.Name of just the class that it throws. */
+    static String answer(Call made) {
+        try {
+            return String.valueOf(made.answer());
+        } catch (RuntimeException thrown) {
+            return thrown(thrown);
+        }
+    }
+
+    /** Told apart: what a throw statement of the program throws, and what the machine throws by itself. */
+    static String thrown(Throwable thrown) {
+        String text = String.valueOf(thrown.getMessage());
+        boolean byMachine = text.equals("/ by zero") || text.startsWith("Index ") || text.startsWith("Cannot ");
+        return (byMachine ? "machine." : "throws.") + thrown.getClass().getSimpleName();
     }
 
     void end() {

@@ -34,10 +34,14 @@ final class Duel {
         return told.toString();
     }
 
+    /** What calls after the last promised one answer is free, so the model alone answers them. */
     String make(String call, long... in) {
+        String due = model.answer(call, in);
+        if (calls == MOST_CALLS) {
+            return due;
+        }
         calls++;
         String got = answer(call, in);
-        String due = model.answer(call, in);
         if (alike) {
             told.append(call).append(Arrays.toString(in)).append(" = ").append(got).append("; ");
         }
@@ -61,7 +65,7 @@ final class Duel {
         try {
             return String.valueOf(METHODS.get(call).invoke(program, given));
         } catch (InvocationTargetException thrown) {
-            return "throws." + thrown.getCause().getClass().getSimpleName();
+            return Check.thrown(thrown.getCause());
         } catch (IllegalAccessException hidden) {
             return "hidden";
         }

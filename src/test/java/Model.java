@@ -58,9 +58,13 @@ final class Model {
             return new Ratio(top, below.multiply(b.below));
         }
 
+        int greaterLength() {
+            return Math.max(above.abs().bitLength(), below.bitLength());
+        }
+
         /** Not WIDE, or TooLong. */
         Ratio told() {
-            if (Math.max(above.abs().bitLength(), below.bitLength()) > 512) {
+            if (greaterLength() > 512) {
                 throw new TooLong();
             }
             return this;
@@ -164,13 +168,18 @@ final class Model {
         if (isFull()) {
             return FULL;
         }
+        return keep(made(call, a, b));
+    }
+
+    /** What a call on two makes of them, of any LENGTH. */
+    static Ratio made(String call, Ratio a, Ratio b) {
         switch (call) {
-            case "add": return keep(a.plus(b));
-            case "less": return keep(a.plus(b.negated()));
-            case "times": return keep(a.by(b));
-            case "over": return keep(a.dividedBy(b));
-            case "rest": return keep(a.plus(b.by(a.dividedBy(b).floor()).negated()));
-            default: return keep(a.common(b));
+            case "add": return a.plus(b);
+            case "less": return a.plus(b.negated());
+            case "times": return a.by(b);
+            case "over": return a.dividedBy(b);
+            case "rest": return a.plus(b.by(a.dividedBy(b).floor()).negated());
+            default: return a.common(b);
         }
     }
 
@@ -385,7 +394,7 @@ final class Model {
         long small = 0, length = 0;
         for (Ratio r : values) {
             small += r.isSmall() ? 1 : 0;
-            length = Math.max(length, Math.max(r.above.abs().bitLength(), r.below.bitLength()));
+            length = Math.max(length, r.greaterLength());
         }
         long[] all = {values.size(), rows.size(), small, wideCalls, length};
         return what < 0 || what > 4 ? BAD : all[(int) what];

@@ -1,15 +1,7 @@
 import java.math.BigInteger;
 
 /** One method for each promise of the document: ordinary inputs, the edges, and what is refused. */
-public final class PromisesTest {
-    private static final int NONE = PlanFractions.NONE, BAD = PlanFractions.BAD, FULL = PlanFractions.FULL;
-    private static final int WIDE = PlanFractions.WIDE, STATE = PlanFractions.STATE;
-    private static final long LEAST = Long.MIN_VALUE, GREATEST = Long.MAX_VALUE;
-    private static final BigInteger TOP = BigInteger.TWO.pow(512).subtract(BigInteger.ONE);
-    private static final int[] NOT_0_OR_1 = {-1, 2, Integer.MIN_VALUE, Integer.MAX_VALUE};
-
-    private static final Check check = new Check();
-
+public final class PromisesTest extends Bench {
     public static void main(String[] args) {
         newObject();
         value();
@@ -43,65 +35,6 @@ public final class PromisesTest {
     }
 
     // ---- helpers
-
-    private static void is(String call, PlanFractions x, int value, String want) {
-        check.due(call + " is a VALUE", value >= 0, true);
-        if (value >= 0) {
-            check.due(call, Check.text(x, value), want);
-        }
-    }
-
-    /** A VALUE of any size up to 512 bits, made of pieces of 32. */
-    private static int big(PlanFractions x, BigInteger number) {
-        int base = x.value(1L << 32, 1);
-        int made = x.value(0, 1);
-        for (int k = 15; k >= 0; k--) {
-            BigInteger piece = number.abs().shiftRight(32 * k).and(BigInteger.valueOf(0xFFFFFFFFL));
-            if (x.of(made, 1) != 0) {
-                made = x.times(made, base);
-            }
-            if (piece.signum() != 0) {
-                made = x.add(made, x.value(piece.longValue(), 1));
-            }
-        }
-        return number.signum() < 0 ? x.less(x.value(0, 1), made) : made;
-    }
-
-    private static BigInteger two(int power) {
-        return BigInteger.TWO.pow(power);
-    }
-
-    private static void fill(PlanFractions x) {
-        for (int i = x.count(0); i < 240; i++) {
-            x.value(1, 1);
-        }
-    }
-
-    /** A ROW of these: above, below, above, below, .. */
-    private static int rowOf(PlanFractions x, long... parts) {
-        int row = x.row(parts.length / 2);
-        for (int k = 0; k < parts.length / 2; k++) {
-            x.put(row, k, x.value(parts[2 * k], parts[2 * k + 1]));
-        }
-        return row;
-    }
-
-    private static int rowOfValues(PlanFractions x, int... values) {
-        int row = x.row(values.length);
-        for (int k = 0; k < values.length; k++) {
-            x.put(row, k, values[k]);
-        }
-        return row;
-    }
-
-    /** A ROW's NUMBERS; needs a free VALUE for each. */
-    private static String places(PlanFractions x, int row, int n) {
-        StringBuilder text = new StringBuilder();
-        for (int k = 0; k < n; k++) {
-            text.append(k == 0 ? "" : " ").append(Check.text(x, x.take(row, k)));
-        }
-        return text.toString();
-    }
 
     private interface Two {
         int answer(PlanFractions x, int a, int b);
