@@ -42,7 +42,8 @@ final class Check {
     /** Told apart: what a throw statement of the program throws, and what the machine throws by itself. */
     static String thrown(Throwable thrown) {
         String text = String.valueOf(thrown.getMessage());
-        boolean byMachine = text.equals("/ by zero") || text.startsWith("Index ") || text.startsWith("Cannot ");
+        boolean byMachine = text.equals("/ by zero") || text.startsWith("Index ") || text.startsWith("Cannot ")
+            || text.startsWith("arraycopy");
         return (byMachine ? "machine." : "throws.") + thrown.getClass().getSimpleName();
     }
 

@@ -1,13 +1,14 @@
 import com.sun.management.ThreadMXBean;
 import java.lang.management.ManagementFactory;
+import java.math.BigInteger;
 
 /** All calls of a run share one room: what a new object and 512 of the dearest calls allocate stays far below it. */
-public final class RoomTest {
+public final class RoomTest extends Bench {
     private static final long MOST_BYTES_OF_A_RUN = 4_000_000;
     private static final long MOST_BYTES_OF_AN_OBJECT = 12_000;
+    private static final int DEAREST_CALLS = 380;
 
     public static void main(String[] args) {
-        Check check = new Check();
         dearestRun();
         check.due("a new object is small", bytesOfAnObject() <= MOST_BYTES_OF_AN_OBJECT, true);
         long before = allocated();
@@ -30,22 +31,21 @@ public final class RoomTest {
         return x.count(0) == 0 ? bytes : -1;
     }
 
-    /** Eliminates in ROWS of ten PLACES with long NUMBERS, as often as an object may be called. */
+    /**
+     * Eliminates in ROWS of ten PLACES whose NUMBERS have some 511 bits above and below, as often as an object may be
+     * called: twenty such NUMBERS are made each time, and the last one is WIDE, so that the ROW stays as it was.
+     */
     private static void dearestRun() {
         PlanFractions x = new PlanFractions();
-        int a = x.value(Long.MAX_VALUE, 3), b = x.value(5, Long.MAX_VALUE - 1);
-        int square = x.times(a, b), cube = x.times(square, b);
-        int row = x.row(10), by = x.row(10);
-        for (int k = 0; k < 10; k++) {
-            x.put(row, k, k % 2 == 0 ? square : cube);
-            x.put(by, k, k % 2 == 0 ? cube : square);
+        BigInteger below = two(510).subtract(BigInteger.ONE);
+        int once = number(x, ratio(two(510).add(BigInteger.ONE), below));
+        int twice = x.add(once, once), thrice = x.add(twice, once);
+        int row = rowBut(x, MOST_PLACES, thrice, 0, twice), by = rowBut(x, MOST_PLACES, once, MOST_PLACES - 1, x.value(-1, 1));
+        x.put(row, MOST_PLACES - 1, big(x, TOP));
+        int wide = 0;
+        for (int calls = 0; calls < DEAREST_CALLS; calls++) {
+            wide += x.eliminate(row, by, 0) == WIDE ? 1 : 0;
         }
-        int calls = 26;
-        for (; calls < 510; calls += 2) {
-            if (x.eliminate(row, by, calls % 10) < 0) {
-                x.eliminate(by, row, calls % 10);
-            }
-            x.put(row, calls % 10, calls % 4 == 0 ? square : a);
-        }
+        check.due("each call works through all PLACES", wide, DEAREST_CALLS);
     }
 }
